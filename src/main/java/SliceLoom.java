@@ -197,7 +197,7 @@ public final class SliceLoom {
     if (lines == null) {
       return REFUSED;
     }
-    return takeInHand(lines.hanging().sliceOf(lines.allOfKind(TELL)));
+    return takeInHand(lines.hanging.upTo(lines).sliceOf(lines.allOfKind(TELL)));
   }
 
   public int never(int program) {
@@ -205,7 +205,7 @@ public final class SliceLoom {
     if (lines == null) {
       return REFUSED;
     }
-    return takeInHand(lines.statements() & ~lines.ways().fromBegin());
+    return takeInHand(lines.statements() & ~lines.ways.upTo(lines).fromBegin());
   }
 
   public int has(int p) {
@@ -317,7 +317,7 @@ public final class SliceLoom {
   /** What hangs on what in a program, or null when it isn't WHOLE or s is no STATEMENT of it. */
   private Hanging hangingOf(int program, int s) {
     Program lines = wholeAt(program);
-    return lines != null && lines.isStatement(s) ? lines.hanging() : null;
+    return lines != null && lines.isStatement(s) ? lines.hanging.upTo(lines) : null;
   }
 
   private int takeInHand(long lines) {
@@ -358,7 +358,7 @@ public final class SliceLoom {
     if (lines == null || !latest.steps.isStep(i)) {
       return false;
     }
-    latest.steps.markFrom(i, lines.hanging().decided);
+    latest.steps.markFrom(i, lines.hanging.upTo(lines).decided);
     return true;
   }
 
@@ -393,6 +393,11 @@ public final class SliceLoom {
 
     static boolean isName(int operand) {
       return operand >= 0 && operand < NAMES;
+    }
+
+    /** The NAME that an operand is, or -1 when it is a number. */
+    static int nameOf(int operand) {
+      return isName(operand) ? operand : -1;
     }
 
     static boolean isNumber(int operand) {
@@ -430,8 +435,12 @@ public final class SliceLoom {
     /** Of each IF and WHILE its CLOSE, and of each IF its ELSE, or -1. */
     final int[] closes = new int[MOST_LINES];
     final int[] elses = new int[MOST_LINES];
-    final Ways cachedWays = new Ways();
-    final Hanging cachedHanging = new Hanging();
+    /** Of each LINE the NAMES that its e reads, and the one that tells its place; -1 for none. */
+    final int[] namesLeft = new int[MOST_LINES];
+    final int[] namesRight = new int[MOST_LINES];
+    final int[] namesPlace = new int[MOST_LINES];
+    final Ways ways = new Ways();
+    final Hanging hanging = new Hanging();
     int size;
     /** The IF or WHILE that BEGAN latest and has no CLOSE yet, or -1. */
     int open = -1;
@@ -500,6 +509,7 @@ public final class SliceLoom {
       depths[p] = openCount;
       closes[p] = -1;
       elses[p] = -1;
+      noteNames(p);
       size++;
       if (kind == IF || kind == WHILE) {
         open = p;
@@ -511,6 +521,15 @@ public final class SliceLoom {
         open = around[open];
         openCount--;
       }
+    }
+
+    private void noteNames(int p) {
+      int sort = Expression.sort(es[p]);
+      boolean hasLeft = hasExpression(kinds[p]) && sort != FROM_ROW;
+      boolean hasRight = hasExpression(kinds[p]) && sort != ALONE;
+      namesLeft[p] = hasLeft ? Expression.nameOf(Expression.left(es[p])) : -1;
+      namesRight[p] = hasRight ? Expression.nameOf(Expression.right(es[p])) : -1;
+      namesPlace[p] = kinds[p] == STORE ? Expression.nameOf(placeStored(xs[p])) : -1;
     }
 
     static int rowStored(int x) {
@@ -555,7 +574,8 @@ public final class SliceLoom {
       int q = p + 1;
       for (int n = 0; n <= MOST_LINES && q >= 0 && q < size; n++) {
         int part = around[q];
-        if (isStatement(q) || part < 0) {
+        boolean isStatement = kinds[q] != ELSE && kinds[q] != CLOSE;
+        if (isStatement || part < 0) {
           return q;
         }
         if (kinds[q] == CLOSE && kinds[part] == WHILE) {
@@ -564,20 +584,6 @@ public final class SliceLoom {
         q = closes[part] + 1;
       }
       return END;
-    }
-
-    Ways ways() {
-      if (cachedWays.sizeKnown != size) {
-        cachedWays.lay(this);
-      }
-      return cachedWays;
-    }
-
-    Hanging hanging() {
-      if (cachedHanging.sizeKnown != size) {
-        cachedHanging.find(this, ways());
-      }
-      return cachedHanging;
     }
 
     long statements() {
@@ -608,28 +614,8 @@ public final class SliceLoom {
       return hasExpression(kinds[p]) && Expression.sort(es[p]) == FROM_ROW;
     }
 
-    /** The NAME that the first operand of e is, or -1. */
-    int nameLeft(int p) {
-      int operand = Expression.left(es[p]);
-      boolean reads = hasExpression(kinds[p]) && !readsRow(p) && Expression.isName(operand);
-      return reads ? operand : -1;
-    }
-
-    /** The NAME that the second operand of e is, or -1. */
-    int nameRight(int p) {
-      int operand = Expression.right(es[p]);
-      boolean reads = Expression.sort(es[p]) != ALONE && Expression.isName(operand);
-      return reads ? operand : -1;
-    }
-
-    /** The NAME that tells the place of a STORE, or -1. */
-    int namePlace(int p) {
-      int operand = placeStored(xs[p]);
-      return kinds[p] == STORE && Expression.isName(operand) ? operand : -1;
-    }
-
     boolean readsName(int p, int name) {
-      return nameLeft(p) == name || nameRight(p) == name || namePlace(p) == name;
+      return namesLeft[p] == name || namesRight[p] == name || namesPlace[p] == name;
     }
 
     /** Whether s READS the ROW that t stores into, and perhaps the same place. */
@@ -674,18 +660,21 @@ public final class SliceLoom {
     final int[] aside = new int[MOST_LINES];
     /** The other LOOSE WAY, beside the one in ahead. */
     final int[] loose = new int[MOST_LINES];
+    /** Of each STATEMENT those to which one WAY leads. */
+    final long[] next = new long[MOST_LINES];
     int begin = END;
-    int size;
-    /** How many LINES the program had when this was laid: they are only ever added. */
+    /** How many LINES the program had when this was laid; enough, since none is taken away. */
     int sizeKnown = -1;
 
-    void lay(Program lines) {
-      size = lines.size;
-      sizeKnown = size;
-      begin = lines.behind(-1);
-      for (int p = 0; p < size; p++) {
-        layFrom(lines, p);
+    Ways upTo(Program lines) {
+      if (sizeKnown != lines.size) {
+        sizeKnown = lines.size;
+        begin = lines.behind(-1);
+        for (int p = 0; p < lines.size; p++) {
+          layFrom(lines, p);
+        }
       }
+      return this;
     }
 
     private void layFrom(Program lines, int p) {
@@ -705,21 +694,18 @@ public final class SliceLoom {
         ahead[p] = END;
         aside[p] = END;
       }
-    }
-
-    private long next(int p) {
       long first = ahead[p] >= 0 ? Bits.one(ahead[p]) : 0;
       long second = aside[p] >= 0 ? Bits.one(aside[p]) : 0;
-      return first | second;
+      next[p] = first | second;
     }
 
     /** All to which a row of WAYS (one at least) leads from p with none of a set between. */
     long reach(int p, long blocks) {
-      long seen = next(p);
+      long seen = next[p];
       long todo = seen & ~blocks;
       for (int n = 0; n < MOST_LINES && todo != 0; n++) {
         int q = Bits.lowest(todo);
-        long fresh = next(q) & ~seen;
+        long fresh = next[q] & ~seen;
         seen |= fresh;
         todo = (todo & todo - 1) | (fresh & ~blocks);
       }
@@ -739,33 +725,31 @@ public final class SliceLoom {
     final long[] decided = new long[MOST_LINES];
     /** Of each STATEMENT those on each row of LOOSE WAYS from it to the END. */
     final long[] sure = new long[MOST_LINES];
-    int size;
-    int sizeKnown = -1;
+    int size = -1;
 
-    void find(Program lines, Ways ways) {
-      size = lines.size;
-      sizeKnown = size;
-      Arrays.fill(readOn, 0);
-      Arrays.fill(decided, 0);
-      findReadOn(lines, ways);
-      findSure(lines, ways);
-      findDecided(lines, ways);
+    Hanging upTo(Program lines) {
+      if (size != lines.size) {
+        size = lines.size;
+        Ways ways = lines.ways.upTo(lines);
+        Arrays.fill(readOn, 0);
+        Arrays.fill(decided, 0);
+        findReadOn(lines, ways);
+        findSure(lines, ways);
+        findDecided(lines, ways);
+      }
+      return this;
     }
 
     private void findReadOn(Program lines, Ways ways) {
       for (int t = 0; t < size; t++) {
-        if (lines.kinds[t] == SET) {
-          long reached = ways.reach(t, lines.settersOf(lines.xs[t]));
-          for (int s = 0; s < size; s++) {
-            boolean reads = Bits.holds(reached, s) && lines.readsName(s, lines.xs[t]);
-            readOn[s] |= reads ? Bits.one(t) : 0;
-          }
-        } else if (lines.kinds[t] == STORE) {
-          long reached = ways.reach(t, 0);
-          for (int s = 0; s < size; s++) {
-            boolean reads = Bits.holds(reached, s) && lines.readsStored(s, t);
-            readOn[s] |= reads ? Bits.one(t) : 0;
-          }
+        boolean sets = lines.kinds[t] == SET;
+        if (!sets && lines.kinds[t] != STORE) {
+          continue;
+        }
+        long reached = ways.reach(t, sets ? lines.settersOf(lines.xs[t]) : 0);
+        for (int s = 0; s < size; s++) {
+          boolean reads = sets ? lines.readsName(s, lines.xs[t]) : lines.readsStored(s, t);
+          readOn[s] |= reads && Bits.holds(reached, s) ? Bits.one(t) : 0;
         }
       }
     }
@@ -878,7 +862,7 @@ public final class SliceLoom {
       Arrays.fill(cells, 0);
       steps.clear();
       lines = program;
-      ways = program.ways();
+      ways = program.ways.upTo(program);
       at = ways.begin;
       done = 0;
       fuel = fuelGiven;
@@ -1027,9 +1011,9 @@ public final class SliceLoom {
       }
       int first = size * SOURCES;
       statements[size] = p;
-      sources[first] = cellRead >= 0 ? latestStored[cellRead] : setterOf(lines.nameLeft(p));
-      sources[first + 1] = setterOf(lines.nameRight(p));
-      sources[first + 2] = setterOf(lines.namePlace(p));
+      sources[first] = cellRead >= 0 ? latestStored[cellRead] : setterOf(lines.namesLeft[p]);
+      sources[first + 1] = setterOf(lines.namesRight[p]);
+      sources[first + 2] = setterOf(lines.namesPlace[p]);
       size++;
     }
 
@@ -1045,7 +1029,7 @@ public final class SliceLoom {
       latestStored[cell] = size - 1;
     }
 
-    /** Marks the TRACE of STEP i: a STEP hangs on earlier ones alone, so one pass back is enough. */
+    /** Marks the TRACE of STEP i. A STEP hangs on earlier ones alone: one pass back is enough. */
     void markFrom(int i, long[] decided) {
       for (int k = 0; k < size; k++) {
         marked[k] = k == i;
