@@ -765,8 +765,10 @@ public final class SliceLoom {
             continue;
           }
           long now = Bits.one(p) | (sureFrom(ways.ahead[p]) & sureFrom(ways.loose[p]));
-          changed |= now != sure[p];
-          sure[p] = now;
+          if (now != sure[p]) {
+            sure[p] = now;
+            changed = true;
+          }
         }
       }
     }
@@ -809,9 +811,10 @@ public final class SliceLoom {
       for (int round = 0; round < MOST_ROUNDS && changed; round++) {
         changed = false;
         for (int s = 0; s < size; s++) {
-          boolean joins = !Bits.holds(seen, s) && ((readOn[s] | decided[s]) & seen) != 0;
-          seen |= joins ? Bits.one(s) : 0;
-          changed |= joins;
+          if (!Bits.holds(seen, s) && ((readOn[s] | decided[s]) & seen) != 0) {
+            seen |= Bits.one(s);
+            changed = true;
+          }
         }
       }
       return seen;
@@ -906,7 +909,9 @@ public final class SliceLoom {
       cellRead = -1;
       number = Program.hasExpression(kind) ? workOut(lines.es[p]) : 0;
       int cell = kind == STORE ? cellStored(x) : -1;
-      refused |= kind == STORE && cell < 0;
+      if (kind == STORE && cell < 0) {
+        refused = true;
+      }
       steps.note(lines, p, cellRead);
       done++;
       if (refused) {

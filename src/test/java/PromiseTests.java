@@ -140,6 +140,8 @@ public final class PromiseTests {
     }
     due(2, "program() when there are 16", x.program(), -2);
     due(27, "count(0)", x.count(0), 16);
+    due(5, "whole(16) when there are 16", x.whole(16), -2);
+    due(27, "count(1) when there are 16", x.count(1), 0);
     due(3, "line of the last", x.line(15, TELL, 0, 0), 0);
     due(20, "cut when there are 16", x.cut(15, 0), -2);
     due(21, "became behind a refused cut", x.became(0), -1);
@@ -433,7 +435,7 @@ public final class PromiseTests {
   }
 
   private static void valuesAndPlaces() {
-    SliceLoom x = loom(SET, 7, number(3), STORE, at(2, 153), number(4));
+    SliceLoom x = loom(SET, 7, number(3), STORE, at(2, 153), number(4), STORE, at(0, 150), number(6));
     x.start(1, 77);
     due(10, "value(1) before a RUN", x.value(1), 0);
     x.run(0, 9);
@@ -442,6 +444,7 @@ public final class PromiseTests {
     due(10, "value(-1)", x.value(-1), 0);
     due(10, "value(8)", x.value(8), 0);
     due(11, "place(2, 3)", x.place(2, 3), 4);
+    due(11, "place(0, 0)", x.place(0, 0), 6);
     int[][] none = {{-1, 0}, {3, 0}, {0, -1}, {2, 4}, {1, 7}, {0, 11}, {MIN, MAX}};
     for (int[] place : none) {
       due(11, "place(" + place[0] + ", " + place[1] + ")", x.place(place[0], place[1]), 0);
@@ -463,6 +466,11 @@ public final class PromiseTests {
     SliceLoom y = loom(WHILE, 0, number(1), SET, 0, e(1, 0, 151), CLOSE, 0, 0, SET, 0, e(1, 0, 151));
     due(12, "itself in a WHILE", y.hangs(0, 1, 1), 1);
     due(12, "itself without a row of WAYS", y.hangs(0, 3, 3), 0);
+    SliceLoom turns = loom(WHILE, 0, name(0), IF, 0, name(1), SET, 0, number(1), CLOSE, 0, 0, CLOSE, 0, 0);
+    due(12, "the first LINE, on a SET behind it", turns.hangs(0, 0, 2), 1);
+    SliceLoom leaves = loom(WHILE, 0, name(0), WHILE, 0, name(0), SET, 0, number(1), LEAVE, 1, 0, CLOSE, 0, 0, CLOSE, 0, 0);
+    due(12, "the first LINE, past a LEAVE", leaves.hangs(0, 0, 2), 1);
+    due(12, "the WHILE that is left, past the first LINE", leaves.hangs(0, 1, 2), 1);
     SliceLoom z = loom(SET, 0, number(1), GIVE, 0, 0, TELL, 0, name(0), SET, 1, number(1), TELL, 0, name(1));
     due(12, "past a GIVE", z.hangs(0, 2, 0), 0);
     due(12, "both behind a GIVE", z.hangs(0, 4, 3), 1);
@@ -807,6 +815,9 @@ public final class PromiseTests {
     atHand(25, "trace(8)", x, 1, 2, 8);
     due(25, "a refused trace", x.trace(9), -2);
     atHand(25, "a refused trace", x, 1, 2, 8);
+    SliceLoom first = loom(STORE, at(0, 150), number(5), TELL, 0, e(8, 0, 150));
+    first.run(0, 50);
+    due(26, "the first place of all", first.traced(1, 0), 1);
     SliceLoom y = loom(WHILE, 0, e(6, 0, 153), SET, 0, e(1, 0, 151), CLOSE, 0, 0, TELL, 0, name(0));
     y.run(0, 50);
     due(25, "STATEMENTS, not STEPS", y.trace(7), 3);
