@@ -47,7 +47,7 @@ public final class OracleTests {
   }
 
   private static void oneRun(int run) {
-    SliceLoom loom = new SliceLoom();
+    Relay loom = new Relay();
     Oracle oracle = new Oracle();
     int style = pick(4);
     for (int n = 0; n < CALLS; n++) {
@@ -63,7 +63,7 @@ public final class OracleTests {
 
   /** One WHOLE program, of which everything is asked. */
   private static void deepRun(int run) {
-    SliceLoom loom = new SliceLoom();
+    Relay loom = new Relay();
     Oracle oracle = new Oracle();
     due(run, "program()", loom.program(), oracle.program());
     part(run, loom, oracle, 5 + pick(40), 0, 0);
@@ -87,7 +87,7 @@ public final class OracleTests {
     }
   }
 
-  private static void part(int run, SliceLoom loom, Oracle oracle, int most, int depth, int whiles) {
+  private static void part(int run, Relay loom, Oracle oracle, int most, int depth, int whiles) {
     int length = 1 + pick(depth == 0 ? 30 : 5);
     for (int n = 0; n < length && oracle.programs.get(0).size() < most; n++) {
       int shape = pick(20);
@@ -114,7 +114,7 @@ public final class OracleTests {
     }
   }
 
-  private static void put(int run, SliceLoom loom, Oracle oracle, int kind, int x, int e) {
+  private static void put(int run, Relay loom, Oracle oracle, int kind, int x, int e) {
     int made = oracle.line(0, kind, x, e);
     due(run, "line(0, " + kind + ", " + x + ", " + e + ")", loom.line(0, kind, x, e), made);
     if (made < 0 && (kind == 3 || kind == 5)) {
@@ -122,7 +122,7 @@ public final class OracleTests {
     }
   }
 
-  private static void askAllOf(int run, SliceLoom loom, Oracle oracle, int s, int size) {
+  private static void askAllOf(int run, Relay loom, Oracle oracle, int s, int size) {
     for (int what = -1; what < 6; what++) {
       due(run, "of(0, " + s + ", " + what + ")", loom.of(0, s, what), oracle.of(0, s, what));
     }
@@ -144,13 +144,13 @@ public final class OracleTests {
     askAtHand(run, loom, oracle);
   }
 
-  private static void askAtHand(int run, SliceLoom loom, Oracle oracle) {
+  private static void askAtHand(int run, Relay loom, Oracle oracle) {
     for (int p = -1; p < 61; p++) {
       due(run, "has(" + p + ")", loom.has(p), oracle.has(p));
     }
   }
 
-  private static void askRun(int run, SliceLoom loom, Oracle oracle, int fuel) {
+  private static void askRun(int run, Relay loom, Oracle oracle, int fuel) {
     due(run, "run(0, " + fuel + ")", loom.run(0, fuel), oracle.run(0, fuel));
     for (int what = -1; what < 5; what++) {
       due(run, "ran(" + what + ")", loom.ran(what), oracle.ran(what));
@@ -232,7 +232,7 @@ public final class OracleTests {
     return pick(100) == 0 ? pick(14) - 2 : weights[style][pick(13)];
   }
 
-  private static void oneLine(int run, SliceLoom loom, Oracle oracle, int style) {
+  private static void oneLine(int run, Relay loom, Oracle oracle, int style) {
     int program = anyProgram(oracle);
     int kind = anyKind(style);
     int x = anyX(kind);
@@ -241,7 +241,7 @@ public final class OracleTests {
     due(run, call, loom.line(program, kind, x, e), oracle.line(program, kind, x, e));
   }
 
-  private static void oneQuestion(int run, SliceLoom loom, Oracle oracle, int which) {
+  private static void oneQuestion(int run, Relay loom, Oracle oracle, int which) {
     int program = anyProgram(oracle);
     int s = anyLine(oracle, program);
     int t = anyLine(oracle, program);
@@ -301,7 +301,7 @@ public final class OracleTests {
     }
   }
 
-  private static void afterRun(int run, SliceLoom loom, Oracle oracle) {
+  private static void afterRun(int run, Relay loom, Oracle oracle) {
     for (int what = -1; what < 5; what++) {
       due(run, "ran(" + what + ")", loom.ran(what), oracle.ran(what));
     }
@@ -315,7 +315,7 @@ public final class OracleTests {
     }
   }
 
-  private static void oneCut(int run, SliceLoom loom, Oracle oracle, int program, int s, int fuel) {
+  private static void oneCut(int run, Relay loom, Oracle oracle, int program, int s, int fuel) {
     int made = oracle.cut(program, s);
     due(run, "cut(" + program + ", " + s + ")", loom.cut(program, s), made);
     for (int p = -1; p < 61; p++) {

@@ -91,7 +91,9 @@ public final class PromiseTests {
     namesThatAreRead();
     decided();
     looseWays();
-    sets();
+    slices();
+    onwards();
+    setsThatAreLeft();
     refusedQuestions();
     nevers();
     distances();
@@ -556,16 +558,23 @@ public final class PromiseTests {
     due(12, "a GIVE at the end by itself", y.hangs(0, 3, 3), 0);
   }
 
-  private static void sets() {
-    int[] lines = {SET, 0, number(1), SET, 1, e(1, 0, 151), SET, 2, name(1), TELL, 0, name(1), SET, 3, number(4),
-      IF, 0, name(3), ELSE, 0, 0, TELL, 0, number(2), CLOSE, 0, 0};
-    SliceLoom x = loom(lines);
+  private static SliceLoom parted() {
+    return loom(SET, 0, number(1), SET, 1, e(1, 0, 151), SET, 2, name(1), TELL, 0, name(1), SET, 3, number(4),
+        IF, 0, name(3), ELSE, 0, 0, TELL, 0, number(2), CLOSE, 0, 0);
+  }
+
+  private static void slices() {
+    SliceLoom x = parted();
     due(13, "slice(0, 3)", x.slice(0, 3), 3);
     atHand(13, "slice(0, 3)", x, 0, 1, 3);
     due(13, "slice(0, 0)", x.slice(0, 0), 1);
     atHand(13, "slice(0, 0)", x, 0);
     due(13, "slice(0, 7)", x.slice(0, 7), 3);
     atHand(13, "slice(0, 7)", x, 4, 5, 7);
+  }
+
+  private static void onwards() {
+    SliceLoom x = parted();
     due(14, "onward(0, 0)", x.onward(0, 0), 4);
     atHand(14, "onward(0, 0)", x, 0, 1, 2, 3);
     due(14, "onward(0, 7)", x.onward(0, 7), 1);
@@ -576,6 +585,10 @@ public final class PromiseTests {
     atHand(15, "between(0, 3, 3)", x, 3);
     due(15, "between(0, 1, 3)", x.between(0, 1, 3), 0);
     atHand(15, "between(0, 1, 3)", x);
+  }
+
+  private static void setsThatAreLeft() {
+    SliceLoom x = parted();
     due(16, "used(0)", x.used(0), 6);
     atHand(16, "used(0)", x, 0, 1, 3, 4, 5, 7);
     due(13, "a refused slice", x.slice(0, 6), -2);
